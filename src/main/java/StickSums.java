@@ -19,6 +19,7 @@ public final class StickSums {
     private static final int[] FIRST_WAYS = {63, 6, 91, 79, 102, 109, 125, 7, 127, 111};
     private static final int[] SIGN_WAYS = {3, 1, 5, 24, 16};
     private static final String SIGNS = "+-=*/";
+    private static final int SIGN_COUNT = 5;
 
     /** To which PLACE each one goes, turn by turn: upside down, upright mirror, lying mirror. */
     private static final int[] FIGURE_TURNS = {
@@ -46,7 +47,7 @@ public final class StickSums {
     private final Acts acts;
     private final Lists lists;
     private final Net net;
-    private final Figures figures;
+    private final Numerals numerals;
 
     public StickSums() {
         tape = new Tape();
@@ -63,7 +64,7 @@ public final class StickSums {
         acts = new Acts();
         lists = new Lists(row, sightings, new Walk(forms, law));
         net = new Net(forms, new Walk(forms, law));
-        figures = new Figures(forms);
+        numerals = new Numerals(forms);
     }
 
     public int feed(int a, int b, int c, int d, int e) {
@@ -195,7 +196,8 @@ public final class StickSums {
         if (sticks < 0 || sticks > MOST_STICKS || row.count == 0) {
             return NONE;
         }
-        return lists.shapeCount(sticks);
+        lists.learnShape();
+        return lists.shapeSpent ? SPENT : lists.shapeCounts[sticks];
     }
 
     public int shaped(int sticks, int i, int cell) {
@@ -206,7 +208,11 @@ public final class StickSums {
     }
 
     public int bound(boolean most) {
-        return row.count == 0 ? NONE : lists.shapeBound(most);
+        if (row.count == 0) {
+            return NONE;
+        }
+        lists.learnShape();
+        return lists.shapeBound(most);
     }
 
     public int apart(int what) {
@@ -217,24 +223,27 @@ public final class StickSums {
     }
 
     public int steps() {
-        if (!row.isLike(goal) || truthOf(row) != 1 || truthOf(goal) != 1) {
+        if (!canHavePath()) {
             return NONE;
         }
-        return net.movesBetween(row, goal);
+        net.findPath(row, goal);
+        return net.moves;
     }
 
     public int step(int moves, int cell) {
-        if (!row.has(cell) || moves < 0 || moves > steps()) {
+        if (moves < 0 || !canHavePath()) {
             return NONE;
         }
-        return readCode(net.rowBehind(moves), cell);
+        net.findPath(row, goal);
+        return moves > net.moves ? NONE : readCode(net.rowBehind(moves), cell);
     }
 
     public int puzzle(int k, int cell) {
         if (k < 1 || k > 2 || !row.has(cell) || truthOf(row) != 1) {
             return NONE;
         }
-        return readCode(net.puzzleOf(row, k), cell);
+        net.findPuzzle(row, k);
+        return readCode(net.puzzle, cell);
     }
 
     public int turned(int way, int cell) {
@@ -285,19 +294,20 @@ public final class StickSums {
         if (what < 0 || what > 1 || row.count == 0) {
             return NONE;
         }
-        int spot = lists.bestSpot(k);
-        if (spot < 0) {
-            return spot;
+        int all = lists.countOf(Lists.COULD, k, 0);
+        if (all < 2) {
+            return all == SPENT ? SPENT : NONE;
         }
+        int spot = lists.bestSpot();
         return what == 0 ? spot / FIGURE_PLACES : spot % FIGURE_PLACES;
     }
 
     public int extreme(int sticks, int figures, boolean great) {
-        return this.figures.outermost(sticks, figures, great);
+        return numerals.outermost(sticks, figures, great);
     }
 
     public int numbers(int sticks, int figures) {
-        return this.figures.countNumbers(sticks, figures);
+        return numerals.countNumbers(sticks, figures);
     }
 
     public int grundy(int cell) {
@@ -398,6 +408,10 @@ public final class StickSums {
             return NONE;
         }
         return reading.isTrueAt(of.count) ? 1 : 0;
+    }
+
+    private boolean canHavePath() {
+        return row.isLike(goal) && truthOf(row) == 1 && truthOf(goal) == 1;
     }
 
     private static boolean canBeBy(int t, int l) {
@@ -740,7 +754,7 @@ public final class StickSums {
         }
 
         int choices(boolean figure) {
-            return figure ? count : SIGNS.length();
+            return figure ? count : SIGN_COUNT;
         }
 
         int bitsOf(boolean figure, int choice) {
@@ -761,7 +775,7 @@ public final class StickSums {
             if (figure) {
                 return bits >= 0 && bits < ALL_BITS ? indexes[bits] : NONE;
             }
-            for (int i = 0; i < SIGN_WAYS.length; i++) {
+            for (int i = 0; i < SIGN_COUNT; i++) {
                 if (SIGN_WAYS[i] == bits) {
                     return i;
                 }
@@ -886,6 +900,7 @@ public final class StickSums {
      */
     private static final class Reading {
         private static final int MOST_DIGITS = 4;
+        private static final int[] POWERS = {1, 10, 100, 1000, 10000};
 
         /** 1 as soon as = was read. */
         private final int[] side = new int[MOST_CELLS + 1];
@@ -1003,6 +1018,18 @@ public final class StickSums {
             return at >= 0 && at <= MOST_CELLS && side[at] == 1;
         }
 
+        /** Whether the last number, of so many digits more, may yet make both sides the same. */
+        boolean canBecomeTrue(int at, int more) {
+            if (at < 0 || at > MOST_CELLS || more < 0 || more > MOST_DIGITS) {
+                return false;
+            }
+            if (sign[at] == '*' || sign[at] == '/') {
+                return true;
+            }
+            int due = sign[at] == '+' ? left[at] - sum[at] : sum[at] - left[at];
+            return due >= number[at] * POWERS[more] && due < (number[at] + 1) * POWERS[more];
+        }
+
         boolean isWhole(int at) {
             return at >= 0 && at <= MOST_CELLS && side[at] == 1 && digits[at] > 0;
         }
@@ -1015,8 +1042,7 @@ public final class StickSums {
         }
 
         boolean isTrueAt(int at) {
-            int worth = worthAt(at, 0);
-            return worth != NO_WORTH && worth == worthAt(at, 1);
+            return isWhole(at) && lostWith(at) == 0 && left[at] == sum[at] + closedTerm(at);
         }
     }
 
@@ -1034,9 +1060,10 @@ public final class StickSums {
         private static final int NOT = -5;
         private static final int OR = -6;
         private static final int AND = -7;
+        private static final int SIGN_CODE = -1000;
 
         private final Tape tape;
-        /** Numbers stand for themselves, the signs for theirs below SIGN_CODE. */
+        /** A number stands for itself, a sign is its byte taken from SIGN_CODE. */
         private final int[] code = new int[MOST_CODE];
         private int length;
         private int units;
@@ -1045,8 +1072,6 @@ public final class StickSums {
         private int draftUnits;
         private final long[] stack = new long[MOST_STACK];
         private int top;
-
-        private static final int SIGN_CODE = -1000;
 
         Law(Tape tape) {
             this.tape = tape;
@@ -1374,7 +1399,9 @@ public final class StickSums {
 
         private void goFrom(int cell, int purse, int sticks, long code) {
             if (cell >= cells || cell >= MOST_CELLS) {
-                arrive(sticks, code);
+                if (isLookedFor(sticks)) {
+                    add(sticks, code);
+                }
                 return;
             }
             int end = cell * MOST_WAYS + choiceCount[cell];
@@ -1388,13 +1415,14 @@ public final class StickSums {
 
         /** Whether no ROW that is looked for begins so. */
         private boolean isVain(int at) {
-            return reading.isLost(at) && sort != FALSE || at > lastSign && !reading.isParted(at);
+            if (at > lastSign && !reading.isParted(at)) {
+                return true;
+            }
+            return sort != FALSE
+                && (reading.isLost(at) || at > lastSign && !reading.canBecomeTrue(at, cells - at));
         }
 
-        private void arrive(int sticks, long code) {
-            if (!isLookedFor(sticks)) {
-                return;
-            }
+        private void add(int sticks, long code) {
             if (count >= from && count - from < WINDOW) {
                 found[count - from] = code;
             }
@@ -1411,11 +1439,11 @@ public final class StickSums {
         }
 
         private boolean isLookedFor(int sticks) {
-            if (!reading.isWhole(cells) || onlySticks != NONE && sticks != onlySticks) {
+            if (onlySticks != NONE && sticks != onlySticks) {
                 return false;
             }
             if (sort == FALSE) {
-                return !reading.isTrueAt(cells);
+                return reading.isWhole(cells) && !reading.isTrueAt(cells);
             }
             return reading.isTrueAt(cells) && (sort == TRUE
                 || law.allows(reading.worthAt(cells, 0), reading.worthAt(cells, 1), sticks, figures));
@@ -1514,27 +1542,20 @@ public final class StickSums {
             }
         }
 
-        private void learnShape() {
+        void learnShape() {
             if (shapeKnown) {
                 return;
             }
-            shapeSpent = countOf(SHAPE, NONE, 0) == SPENT;
+            find(SHAPE, NONE, 0, 0);
+            shapeSpent = count == SPENT;
             for (int i = 0; i <= MOST_STICKS; i++) {
                 shapeCounts[i] = shapeSpent ? 0 : walk.bySticks[i];
             }
             shapeKnown = true;
         }
 
-        int shapeCount(int sticks) {
-            learnShape();
-            if (shapeSpent) {
-                return SPENT;
-            }
-            return sticks < 0 || sticks > MOST_STICKS ? NONE : shapeCounts[sticks];
-        }
-
+        /** The SHAPE must have been learnt. */
         int shapeBound(boolean most) {
-            learnShape();
             if (shapeSpent) {
                 return SPENT;
             }
@@ -1547,20 +1568,16 @@ public final class StickSums {
             return NONE;
         }
 
-        /** NEXT as FIGURE_PLACES * CELL + PLACE. */
-        int bestSpot(int k) {
-            int all = countOf(COULD, k, 0);
-            if (all < 2) {
-                return all == SPENT ? SPENT : NONE;
-            }
-            int best = NONE;
-            int leastPart = all + 1;
+        /** NEXT, by those that were counted last, as FIGURE_PLACES * CELL + PLACE. */
+        int bestSpot() {
+            int best = 0;
+            int leastPart = count + 1;
             for (int spot = 0; spot < row.count * FIGURE_PLACES; spot++) {
                 int c = spot / FIGURE_PLACES;
                 int place = spot % FIGURE_PLACES;
                 if (row.hasPlace(c, place)) {
                     int with = walk.foundWith(c, row.figure[c], place);
-                    int part = Math.max(with, all - with);
+                    int part = Math.max(with, count - with);
                     best = part < leastPart ? spot : best;
                     leastPart = Math.min(part, leastPart);
                 }
@@ -1693,8 +1710,8 @@ public final class StickSums {
         private boolean pathKnown;
         private int moves;
         private final long[] trials = new long[MOST_LOOKED_AT];
-        private int puzzleBy;
-        private long puzzleCode;
+        private int puzzleBy = NONE;
+        private long puzzle = NONE;
 
         Net(Forms forms, Walk walk) {
             this.forms = forms;
@@ -1707,37 +1724,24 @@ public final class StickSums {
         }
 
         /** Both must be TRUE, and LIKE one another. */
-        int movesBetween(Row start, Row aim) {
-            if (!pathKnown) {
-                spot.copyFrom(start);
-                moves = findPath(Walk.codeOf(start, forms), Walk.codeOf(aim, forms));
-                pathKnown = true;
+        void findPath(Row start, Row aim) {
+            if (pathKnown) {
+                return;
             }
-            return moves;
-        }
-
-        private int findPath(long start, long aim) {
-            rows[0] = start;
+            pathKnown = true;
+            spot.copyFrom(start);
+            rows[0] = Walk.codeOf(start, forms);
             origins[0] = NONE;
             count = 1;
-            if (start == aim) {
-                return 0;
-            }
-            for (int i = 0; i < count && i <= MOST_OTHERS; i++) {
+            long aimCode = Walk.codeOf(aim, forms);
+            boolean reached = rows[0] == aimCode;
+            for (int i = 0; i < count && count <= MOST_OTHERS && !reached; i++) {
                 walkFrom(rows[i], 1, Walk.TRUE, Walk.WINDOW);
-                for (int j = 0; j < walk.count; j++) {
-                    if (!addNew(walk.foundAt(j), i)) {
-                        continue;
-                    }
-                    if (walk.foundAt(j) == aim) {
-                        return movesTo(count - 1);
-                    }
-                    if (count > MOST_OTHERS) {
-                        return SPENT;
-                    }
+                for (int j = 0; j < walk.count && count <= MOST_OTHERS && !reached; j++) {
+                    reached = addNew(walk.foundAt(j), i) && walk.foundAt(j) == aimCode;
                 }
             }
-            return NONE;
+            moves = reached ? movesToLast() : count > MOST_OTHERS ? SPENT : NONE;
         }
 
         private void walkFrom(long code, int k, int sort, int stop) {
@@ -1764,8 +1768,8 @@ public final class StickSums {
             return true;
         }
 
-        private int movesTo(int last) {
-            int at = last;
+        private int movesToLast() {
+            int at = count - 1;
             int all = 0;
             while (all <= MOST_OTHERS && at > 0 && at <= MOST_OTHERS) {
                 at = origins[at];
@@ -1784,33 +1788,27 @@ public final class StickSums {
         }
 
         /** The ROW must be TRUE. */
-        long puzzleOf(Row row, int k) {
-            if (puzzleBy != k) {
-                spot.copyFrom(row);
-                puzzleCode = findPuzzle(Walk.codeOf(row, forms), k);
-                puzzleBy = k;
+        void findPuzzle(Row row, int k) {
+            if (puzzleBy == k) {
+                return;
             }
-            return puzzleCode;
-        }
-
-        private long findPuzzle(long start, int k) {
-            walkFrom(start, k, Walk.FALSE, MOST_LOOKED_AT);
+            puzzleBy = k;
+            puzzle = NONE;
+            spot.copyFrom(row);
+            walkFrom(Walk.codeOf(row, forms), k, Walk.FALSE, MOST_LOOKED_AT);
             int looked = Math.min(walk.count, MOST_LOOKED_AT);
             for (int i = 0; i < looked; i++) {
                 trials[i] = walk.foundAt(i);
             }
-            for (int i = 0; i < looked; i++) {
+            for (int i = 0; i < looked && puzzle == NONE; i++) {
                 walkFrom(trials[i], k, Walk.TRUE, 2);
-                if (walk.count == 1) {
-                    return trials[i];
-                }
+                puzzle = walk.count == 1 ? trials[i] : NONE;
             }
-            return NONE;
         }
     }
 
     /** The numbers that so many sticks lay in so many FIGURES. */
-    private static final class Figures {
+    private static final class Numerals {
         private static final int MOST_FIGURES = 5;
         private static final int MOST_LAID = 35;
 
@@ -1822,7 +1820,7 @@ public final class StickSums {
         private final int[] sizes = new int[10];
         private int groups;
 
-        Figures(Forms forms) {
+        Numerals(Forms forms) {
             this.forms = forms;
         }
 
