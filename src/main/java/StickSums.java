@@ -4,6 +4,7 @@ public final class StickSums {
     public static final int NONE = -1;
 
     private static final int SPENT = -2;
+    private static final int TOO_LONG = -2;
     private static final int NO_WORTH = -2000000000;
 
     private static final int MOST_CELLS = 11;
@@ -118,7 +119,7 @@ public final class StickSums {
 
     public int wanted() {
         if (tape.length > WANTED_BYTES) {
-            return SPENT;
+            return TOO_LONG;
         }
         int units = law.readText();
         tape.length = 0;
@@ -381,7 +382,7 @@ public final class StickSums {
 
     private int layText(Row to) {
         if (tape.length > SUM_BYTES) {
-            return SPENT;
+            return TOO_LONG;
         }
         int cells = reading.readText(tape);
         if (cells != NONE) {
