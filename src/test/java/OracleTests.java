@@ -1283,7 +1283,7 @@ public final class OracleTests {
 
         private void askLists() {
             int c = someCell();
-            int i = dice.nextInt(4) == 0 ? any(-1, 300) : any(0, 1);
+            int i = dice.nextInt(4) == 0 ? any(-1, 500) : any(0, 1);
             boolean isLong = model.row.size() > 7;
             switch (dice.nextInt(isLong ? 3 : 7)) {
                 case 0: {

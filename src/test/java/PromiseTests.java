@@ -755,6 +755,10 @@ public final class PromiseTests {
         goal(x, "7=7");
         due("no PATH", x.steps(), -1);
         lay(x, "0*6+0*9=0*6");
+        goal(x, "0*8+0/9=0*9");
+        due("the 150th other", x.steps(), 2);
+        goal(x, "0*8-0*9=0*9");
+        due("the 151st other", x.steps(), -2);
         goal(x, "0*2+0*2=0*2");
         due("SPENT", x.steps(), -2);
         promise = 23;
@@ -907,9 +911,35 @@ public final class PromiseTests {
         spent.seen(0, 0, true);
         spent.seen(0, 0, false);
         due("none is as SEEN", spent.could(0), 0);
+        longList();
         promise = 27;
         spent.stick(0, 0, true);
         due("ACTS leave SEEN", spent.about(3), 2);
+    }
+
+    /** Some of a long list, asked for out of order: as they stand among all digits and signs. */
+    private static void longList() {
+        promise = 31;
+        StickSums x = laid("1+1=1");
+        due("a long list", x.could(0), 484);
+        String signs = "0123456789+-=*/";
+        int[] some = {483, 256, 257, 0, 255, 400, 482, 1};
+        String[] found = new String[484];
+        for (int i : some) {
+            found[i] = read(x, c -> x.couldBe(0, i, c));
+            due(found[i] + " is TRUE", laid(found[i]).isTrue(), 1);
+        }
+        due("none behind", x.couldBe(0, 484, 0), -1);
+        int at = 0;
+        for (int all = 0; all < 10 * 5 * 10 * 5 * 10; all++) {
+            String sum = "" + all / 2500 + signs.charAt(10 + all / 500 % 5) + all / 50 % 10
+                + signs.charAt(10 + all / 10 % 5) + all % 10;
+            if (sum.replaceAll("[^=]", "").length() == 1 && laid(sum).isTrue() == 1) {
+                due("number " + at, found[at] == null ? sum : found[at], sum);
+                at++;
+            }
+        }
+        due("all of them", at, 484);
     }
 
     private static void extremes() {
@@ -945,6 +975,8 @@ public final class PromiseTests {
             all += x.numbers(sticks, 5);
         }
         due("each number of five figures once", all, 90000);
+        forms(x, "digit 6 as 125 or 124;");
+        due("1 by 0 6 9, 6 9 by 1, 2 3 5 6 by 7, 7 by 2 3 5 6, 44", x.numbers(8, 2), 14);
         forms(x, "digit 6 as 125 or 124;digit 1 as 6 or 2;");
         due("a number by two WAYS once", x.numbers(3, 2), 1);
         due("11 by 1 and 2, or 2 and 1", x.extreme(3, 2, false), 11);
@@ -1067,7 +1099,11 @@ public final class PromiseTests {
         x.stick(0, 0, true);
         due("back", x.back(2), 5);
         due("another", row(x), "12=12");
+        x.keep(0);
+        x.keep(1);
         forms(x, "");
+        due("FORMS empty them", x.back(0), -1);
+        due("FORMS empty them", x.back(1), -1);
         due("FORMS empty them", x.back(2), -1);
         due("without CELLS", x.keep(2), -1);
     }
