@@ -18,7 +18,7 @@ public final class OracleTests {
     public static void main(String[] args) {
         int runs = args.length > 0 ? Integer.parseInt(args[0]) : 400;
         int first = args.length > 1 ? Integer.parseInt(args[1]) : 0;
-        long calls = 0;
+        long calls = edges();
         for (int run = first; run < first + runs && wrong < 10; run++) {
             calls += new Run(run).play();
         }
@@ -26,6 +26,21 @@ public final class OracleTests {
         if (wrong != 0) {
             System.exit(1);
         }
+    }
+
+    /** Where a PATH is SPENT, and the last one looked at for a PUZZLE: 149, 150, 151 others; the 200th, the 201st. */
+    private static int edges() {
+        String[] paths = {"60/85=0", "22/88=0", "60/85=0", "11-11=0", "66=65-0+1", "29=28-0+1", "66=65-0+1", "11=11-0+0",
+            "3/12/9=0", "5=15/3+0", "3/12/9=0", "5=10/2-0"};
+        int calls = 0;
+        for (int i = 0; i < paths.length; i += 2) {
+            calls += new Run(-1 - i).path(paths[i], paths[i + 1]);
+        }
+        String[] puzzles = {"8/9=6/67", "9-3/70=9", "5=5-0*80", "66/97/5=0"};
+        for (int i = 0; i < puzzles.length; i++) {
+            calls += new Run(-101 - i).puzzle(puzzles[i]);
+        }
+        return calls;
     }
 
     /** The model: texts, sets and lists, and every list found anew for each call. */
@@ -984,12 +999,41 @@ public final class OracleTests {
             while (calls < most && calls < 480) {
                 int before = wrong;
                 turn();
-                if (wrong > before) {
-                    System.out.println("run " + name + ":");
-                    told.forEach(t -> System.out.println("  " + t));
+                if (tellIfWrong(before)) {
                     break;
                 }
             }
+            return calls;
+        }
+
+        private boolean tellIfWrong(int before) {
+            if (wrong > before) {
+                System.out.println("run " + name + ":");
+                told.forEach(t -> System.out.println("  " + t));
+            }
+            return wrong > before;
+        }
+
+        int path(String from, String to) {
+            write(from);
+            due("lay", real.lay(), model.lay());
+            write(to);
+            due("goal", real.goal(), model.goal());
+            due("steps from " + from + " to " + to, real.steps(), model.steps());
+            for (int m = 1; m <= 12; m += 5) {
+                due("step " + m, real.step(m, 0), model.step(m, 0));
+            }
+            tellIfWrong(0);
+            return calls;
+        }
+
+        int puzzle(String text) {
+            write(text);
+            due("lay", real.lay(), model.lay());
+            for (int c = 0; c < text.length(); c++) {
+                due("puzzle of " + text + " " + c, real.puzzle(2, c), model.puzzle(2, c));
+            }
+            tellIfWrong(0);
             return calls;
         }
 
